@@ -9,10 +9,13 @@ public final class TyreWorks {
     private static final int MOST_BATCHES = 24;
     private static final int MOST_LOTS = 40;
     private static final int MOST_TYRES = 60;
-    private static final int MOST_SIZES = 6;
+    private static final int MOST_MIXES = 6;
     private static final int MOST_PARTS = 8;
+    private static final int MOST_SIZES = 6;
     private static final int MOST_PRESSES = 4;
     private static final int MOST_MOULDS = 8;
+    private static final int MOST_ORDERS = 8;
+    private static final int MOST_LAWS = 8;
     private static final int MOST_OPEN = 8;
     private static final int MOST_TOLD_PARTS = 12;
     private static final int PLACES = 8;
@@ -596,12 +599,13 @@ public final class TyreWorks {
 
     /** What a text of THE WORKS tells; its rows are used again for the next text. */
     private static final class Plan {
-        private static final int[] MOST_TOLD = {6, 8, 6, 4, 8, 8, 8, 24, 30};
+        private static final int[] MOST_TOLD = {MOST_MIXES, MOST_PARTS, MOST_SIZES, MOST_PRESSES, MOST_MOULDS, MOST_ORDERS,
+            MOST_LAWS, 24, 30};
 
         final int[] told = new int[9];
         final int[][] names = new int[5][8];
-        final int[] ripe = new int[6];
-        final int[] stale = new int[6];
+        final int[] ripe = new int[MOST_MIXES];
+        final int[] stale = new int[MOST_MIXES];
         final int[] partMix = new int[MOST_PARTS];
         final int[] takes = new int[MOST_PARTS];
         final int[] wide = new int[MOST_PARTS];
@@ -610,9 +614,9 @@ public final class TyreWorks {
         final int[][] changing = new int[MOST_SIZES][MOST_SIZES];
         final int[] mouldSize = new int[MOST_MOULDS];
         final int[] lives = new int[MOST_MOULDS];
-        final int[] orderSize = new int[8];
-        final int[] asks = new int[8];
-        final int[] due = new int[8];
+        final int[] orderSize = new int[MOST_ORDERS];
+        final int[] asks = new int[MOST_ORDERS];
+        final int[] due = new int[MOST_ORDERS];
         final Laws laws = new Laws();
         int sheet;
         int splice;
@@ -704,7 +708,7 @@ public final class TyreWorks {
         private static final int GREATEST = 1000000;
 
         final int[] code = new int[MOST_BYTES];
-        final int[] starts = new int[9];
+        final int[] starts = new int[MOST_LAWS + 1];
         int length;
         private final int[] stack = new int[64];
         private int height;
@@ -1797,7 +1801,7 @@ public final class TyreWorks {
         }
 
         private int bestOf(int set, int n, int sheet, int splice) {
-            int least = Integer.MAX_VALUE;
+            int least = (n + 1) << FILL_BITS;
             for (int i = 0; i < n; i++) {
                 if ((set & (1 << i)) != 0) {
                     least = Math.min(least, with(best[set ^ (1 << i)], widths[i], sheet, splice));
@@ -1818,7 +1822,7 @@ public final class TyreWorks {
 
     /** The SIZES that are asked, in the order of the least change: all orders are tried, first by numbers. */
     private static final class Route {
-        private static final int MOST_ORDERS = 720;
+        private static final int MOST_TRIED = 720;
 
         final int[] best = new int[MOST_SIZES];
         int length;
@@ -1833,11 +1837,11 @@ public final class TyreWorks {
                     length++;
                 }
             }
-            hours = Integer.MAX_VALUE;
+            hours = NONE;
             boolean more = true;
-            for (int n = 0; n < MOST_ORDERS && more; n++) {
+            for (int n = 0; n < MOST_TRIED && more; n++) {
                 int found = hoursOf(plan, from);
-                if (found < hours) {
+                if (hours == NONE || found < hours) {
                     hours = found;
                     System.arraycopy(tried, 0, best, 0, length);
                 }

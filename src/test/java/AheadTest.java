@@ -16,6 +16,8 @@ public final class AheadTest {
         scrappedDoNotCount();
         nearTheLastHour();
         rests();
+        atTheLastHour();
+        manyHours();
         likeATwinThatLivesIt();
         Check.close();
     }
@@ -129,6 +131,45 @@ public final class AheadTest {
         Check.due("never so", x.kept(1), 0);
         Check.due("it does not starve by 9999", x.starves(0), NONE);
         Check.due("no mould", x.starves(1), 9995);
+    }
+
+    private static void atTheLastHour() {
+        TyreWorks x = Check.told(START + "order a 1 by 9999;");
+        for (int n = 0; n < 10; n++) {
+            x.hours(999);
+        }
+        x.mix(0, 9);
+        x.cut(0, 0, 9);
+        x.hours(4);
+        x.build(0);
+        x.mount(0, 2);
+        Check.due("in the last hour", x.starves(0), 9999);
+        Check.due("in the last hour", x.when(0), 9999);
+        x.cure(0);
+        Check.due("in the last hour", x.starves(0), 9999);
+        x.hours(1);
+        x.build(0);
+        x.hours(3);
+        Check.due("now", x.when(0), 9999);
+        Check.due("it would cure on", x.starves(0), NONE);
+    }
+
+    /** Sixty tyres that rest long, so that nearly each hour of change is one of its own. */
+    private static void manyHours() {
+        String text = "mix m ripe 0 stale 999;part p of m takes 1 wide 9;size a cures 7;needs a 1 p;press x;"
+                + "mould ma of a lives 99;rests 200 999;order a 55 by 9999;order a 5 by 9999;";
+        TyreWorks x = Check.told(text);
+        x.mix(0, 99);
+        x.cut(0, 0, 60);
+        x.mount(0, 0);
+        for (int t = 0; t < 60; t++) {
+            x.build(0);
+            x.hours(2);
+        }
+        Check.due("starves", x.starves(0), 180);
+        Check.due("55 are cured", x.when(0), 201 + 55 * 7);
+        Check.due("all are cured", x.when(1), 201 + 60 * 7);
+        Check.due("kept", x.kept(1), 1);
     }
 
     private static void rests() {

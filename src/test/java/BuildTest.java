@@ -14,6 +14,7 @@ public final class BuildTest {
         holdsSixty();
         counts();
         could();
+        tracesTheFirst();
         traces();
         Check.close();
     }
@@ -194,6 +195,16 @@ public final class BuildTest {
         Check.due("not asking for hours", x.could(0), 0);
     }
 
+    private static void tracesTheFirst() {
+        TyreWorks x = stocked();
+        x.build(0);
+        Check.due("trace", x.trace(0, 0), 0);
+        Check.due("others", x.others(0), 2);
+        Check.due("others", x.others(1), 1);
+        x.build(1);
+        Check.due("others stay", x.others(1), 1);
+    }
+
     private static void traces() {
         TyreWorks x = Check.told(TEXT);
         x.mix(1, 99);
@@ -221,6 +232,8 @@ public final class BuildTest {
             Check.due("trace ahead of " + b, x.trace(b, -1), NONE);
             Check.due("others " + b, x.others(b), others[b]);
         }
+        Check.due("trace 32", x.trace(32, 0), NONE);
+        Check.due("others 33", x.others(33), NONE);
         Check.due("trace 4", x.trace(4, 0), NONE);
         Check.due("trace -1", x.trace(-1, 0), NONE);
         Check.due("others 4", x.others(4), NONE);

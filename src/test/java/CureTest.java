@@ -14,6 +14,7 @@ public final class CureTest {
         scraps();
         hours();
         curesBeyondTheLastHour();
+        fourPresses();
         Check.close();
     }
 
@@ -223,6 +224,31 @@ public final class CureTest {
         Check.due("far too many", x.hours(Integer.MAX_VALUE), NONE);
         Check.due("hour", x.has(7), 9999);
         Check.due("refusals", x.status(4), 6);
+    }
+
+    private static void fourPresses() {
+        StringBuilder text = new StringBuilder("mix m ripe 0 stale 999;part p of m takes 1 wide 9;size a cures 4;needs a 1 p;");
+        for (char c = 'a'; c < 'e'; c++) {
+            text.append("press p").append(c).append(";");
+        }
+        for (char c = 'a'; c < 'i'; c++) {
+            text.append("mould m").append(c).append(" of a lives 1;");
+        }
+        TyreWorks x = Check.told(text.toString());
+        x.mix(0, 99);
+        x.cut(0, 0, 9);
+        for (int p = 0; p < 4; p++) {
+            Check.due("build", x.build(0), p);
+            Check.due("mount", x.mount(p, 7 - p), true);
+            mould(x, 7 - p, 0, p, 0, 1);
+        }
+        for (int p = 0; p < 4; p++) {
+            Check.due("starves", x.starves(p), 8);
+            Check.due("cure", x.cure(p), p);
+            press(x, p, 7 - p, p, 8);
+        }
+        Check.due("all four", x.hours(4), 4);
+        press(x, 3, 4, NONE, 8);
     }
 
     private static void curesBeyondTheLastHour() {

@@ -7,6 +7,7 @@ public final class ImageTest {
     public static void main(String[] args) {
         ofNothing();
         ofTyres();
+        hasEveryBatch();
         staysAsWritten();
         Check.close();
     }
@@ -53,6 +54,20 @@ public final class ImageTest {
         x.scrap(1);
         Check.due("image", x.image(), 24);
         octets(x, 1, 309 - 256, 4, 1, 2, 0, 4, 1, 0, 3, 128, 0, 0, 1, 0, 128, 0, 0, 0, 0, 2, 0, 0);
+    }
+
+    private static void hasEveryBatch() {
+        for (int b = 0; b < 24; b++) {
+            TyreWorks x = Check.told(TEXT);
+            for (int n = 0; n <= b; n++) {
+                x.mix(0, 9);
+            }
+            x.cut(b, 0, 1);
+            x.build(0);
+            x.image();
+            int bits = 1 << b;
+            octets(x, 0, 1, 1, 0, 0, bits >> 16, (bits >> 8) & 255, bits & 255);
+        }
     }
 
     private static void staysAsWritten() {

@@ -55,6 +55,10 @@ public final class RulesTest {
                 open.add(method.getName());
             }
         }
+        for (Method method : TyreWorks.class.getDeclaredMethods()) {
+            boolean closed = Modifier.isPrivate(method.getModifiers());
+            Check.due("a public name: " + method, closed && open.contains(method.getName()), false);
+        }
         for (Field field : TyreWorks.class.getDeclaredFields()) {
             boolean named = field.getName().equals("NONE");
             Check.due("private " + field.getName(), Modifier.isPrivate(field.getModifiers()), !named);

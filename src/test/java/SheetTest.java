@@ -64,6 +64,8 @@ public final class SheetTest {
     private static void tooWide() {
         TyreWorks x = told("sheet 40 splice 2;", 40, 41);
         sheets(x, NONE, NONE, 0, 1);
+        sheets(x, NONE, NONE, 1, 0);
+        sheets(x, NONE, NONE, 1);
         Check.due("too wide is none", x.status(5), 0);
         sheets(x, NONE, NONE, 1, 7);
         Check.due("none such is one", x.status(5), 1);

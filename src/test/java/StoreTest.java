@@ -89,7 +89,7 @@ public final class StoreTest {
         Check.due("no such part", x.cut(0, -1, 1), NONE);
         Check.due("of another mix", x.cut(0, 1, 1), NONE);
         Check.due("none", x.cut(0, 0, 0), NONE);
-        Check.due("61", x.cut(0, 0, 61), NONE);
+        Check.due("more than the pounds", x.cut(0, 0, 61), NONE);
         Check.due("a pound lacks", x.cut(0, 0, 60), NONE);
         Check.due("pounds stay", x.batch(0, 1), 179);
         Check.due("refusals", x.status(2), 9);
@@ -110,6 +110,8 @@ public final class StoreTest {
             Check.due("mix " + n, x.mix(1, 2), n);
         }
         Check.due("25th", x.mix(1, 2), NONE);
+        Check.due("more than 60 parts", manyPounds().cut(0, 1, 61), NONE);
+        Check.due("60 parts", manyPounds().cut(0, 1, 60), 0);
         for (int n = 0; n < 40; n++) {
             Check.due("cut " + n, x.cut(n / 2, 1, 1), n);
         }
@@ -118,6 +120,12 @@ public final class StoreTest {
         Check.due("batches", x.has(8), 24);
         Check.due("lots", x.has(9), 40);
         Check.due("stock", x.stock(1), 40);
+    }
+
+    private static TyreWorks manyPounds() {
+        TyreWorks x = Check.told(TEXT);
+        x.mix(1, 999);
+        return x;
     }
 
     private static void stock() {

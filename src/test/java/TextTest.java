@@ -15,6 +15,8 @@ public final class TextTest {
         startsAnew();
         staysWithAFault();
         takesBlanks();
+        forgetsWhatWasTold();
+        hasRoomForLawsAgain();
         takesAsManyAsMayBe();
         Check.close();
     }
@@ -154,6 +156,61 @@ public final class TextTest {
         Check.told("press b;press c;bad when[not[old>1]]and(1)<min(2,3);");
         Check.told("rests 007 0999;");
         Check.due("nothing but blanks", Check.works(new TyreWorks(), "\n  \n"), 0);
+    }
+
+    /** What the last text but one told must not shine through: rows are used again. */
+    private static void forgetsWhatWasTold() {
+        String plain = "mix m ripe 0 stale 999;part p of m takes 1 wide 50;size a cures 1;needs a 1 p;press x;"
+                + "mould ma of a lives 9;";
+        TyreWorks x = new TyreWorks();
+        for (int n = 0; n < 3; n++) {
+            Check.due("with a sheet and rests", Check.works(x, plain + "sheet 400 splice 9;rests 7 8;bad when all;"), 9);
+            x.mix(0, 9);
+            x.cut(0, 0, 9);
+            x.build(0);
+            x.mount(0, 0);
+            x.hours(7);
+            Check.due("cure", x.cure(0), 0);
+            x.hours(1);
+            Check.due("cured and bad", x.law(0), 0);
+        }
+        for (int n = 0; n < 3; n++) {
+            Check.due("without", Check.works(x, plain), 6);
+            Check.due("mould is out", x.press(0, 0), NONE);
+            Check.bytes(x, 0, 0);
+            Check.due("sheet 100, splice 0", x.sheets(), 1);
+            Check.due("no waste", x.waste(), 0);
+            x.mix(0, 9);
+            x.cut(0, 0, 9);
+            x.mount(0, 0);
+            x.build(0);
+            Check.due("green", x.tyre(0, 1), 0);
+            Check.due("rest 0", x.cure(0), 0);
+            x.hours(1);
+            Check.due("no law", x.law(0), NONE);
+            x.build(0);
+            x.hours(999);
+            x.hours(1);
+            Check.due("not rest 1000", x.cure(0), NONE);
+        }
+    }
+
+    private static void hasRoomForLawsAgain() {
+        String law = "bad when 1" + "+1".repeat(740) + "=741;";
+        String text = "mix m ripe 0 stale 9;part p of m takes 1 wide 9;size a cures 1;needs a 1 p;";
+        TyreWorks x = new TyreWorks();
+        for (int n = 0; n < 9; n++) {
+            Check.due("a long law", Check.works(x, law), 1);
+            Check.due("a faulty one", Check.works(x, law + "x"), NONE);
+        }
+        Check.due("told", Check.works(x, text + "press x;mould ma of a lives 9;bad when 1=2;bad when lay=0;"), 8);
+        x.mix(0, 9);
+        x.cut(0, 0, 9);
+        x.mount(0, 0);
+        x.build(0);
+        x.cure(0);
+        x.hours(1);
+        Check.due("the second law", x.law(0), 1);
     }
 
     private static void takesAsManyAsMayBe() {
