@@ -1,7 +1,15 @@
+import java.io.IOException;
+import java.nio.file.Files;
+import java.nio.file.Path;
+import java.util.function.Supplier;
+
 /** What the tests share: telling texts and bytes to the tape, and counting answers that are not due. */
 final class Check {
+    private static final Path DOCUMENT = Path.of("../shared/DOC.md");
     private static int asked = 0;
     private static int wrong = 0;
+    private static String sentence = "";
+    private static String document = "";
 
     private Check() {
     }
@@ -10,8 +18,26 @@ final class Check {
         asked++;
         if (got != want) {
             wrong++;
-            System.out.println(call + " answered " + got + ", due is " + want);
+            System.out.println(sentence + call + " answered " + got + ", due is " + want);
         }
+    }
+
+    /** The sentence of the document that the answers behind this one are due by; it must stand there so. */
+    static void says(String words) {
+        sentence = "";
+        due("the document says '" + words + "'", document().isEmpty() || document().contains(words), true);
+        sentence = "'" + words + "': ";
+    }
+
+    private static String document() {
+        if (document.isEmpty() && Files.exists(DOCUMENT)) {
+            try {
+                document = Files.readString(DOCUMENT);
+            } catch (IOException unread) {
+                System.out.println("unread: " + unread);
+            }
+        }
+        return document;
     }
 
     static void due(String call, boolean got, boolean want) {
@@ -61,5 +87,53 @@ final class Check {
         }
         due("works of " + text, statements, semicolons);
         return x;
+    }
+
+    /** A text with ^ ahead of the place where its fault is due; the rest of it is told. */
+    static void fault(int which, String marked) {
+        int place = marked.indexOf('^');
+        TyreWorks x = new TyreWorks();
+        due("works of " + marked, works(x, marked.substring(0, place) + marked.substring(place + 1)), TyreWorks.NONE);
+        due("fault of " + marked, x.fault(0), which);
+        due("place of " + marked, x.fault(1), place);
+        due("refusals of " + marked, x.status(1), 1);
+    }
+
+    /** All that can be asked without changing anything, but for the refusals; the tape is not asked for. */
+    static String state(TyreWorks x) {
+        StringBuilder all = new StringBuilder();
+        for (int i = 0; i < 12; i++) {
+            all.append(x.has(i)).append(' ').append(x.pounds(i)).append(' ').append(x.route(i - 1)).append(' ');
+            all.append(x.stock(i)).append(' ').append(x.could(i)).append(' ').append(x.starves(i)).append(' ');
+            all.append(x.kept(i)).append(' ').append(x.when(i)).append(' ').append(x.bad(i - 1)).append(' ');
+            for (int j = 0; j < 8; j++) {
+                all.append(x.needs(i, j)).append(' ').append(x.change(i, j)).append(' ').append(x.press(i, j)).append(' ');
+                all.append(x.mould(i, j)).append(' ').append(x.count(i, j)).append(' ').append(x.letter(j, i, 0)).append(' ');
+            }
+        }
+        for (int i = 0; i < 60; i++) {
+            for (int j = 0; j < 9; j++) {
+                all.append(x.batch(i, j)).append(' ').append(x.lot(i, j)).append(' ').append(x.tyre(i, j)).append(' ');
+                all.append(x.trace(i, j)).append(' ').append(x.spread(i, j)).append(' ');
+            }
+            all.append(x.others(i)).append(' ').append(x.octet(i)).append(' ').append(x.law(i)).append(' ');
+            all.append(x.turn(i)).append(' ');
+        }
+        return all.append(x.match()).append(' ').append(x.waste()).toString();
+    }
+
+    /** A call that was refused: it answered so, one refusal of its kind more was counted, and nothing else changed. */
+    static void refused(TyreWorks x, String call, int kind, Supplier<Object> made) {
+        String before = state(x);
+        int[] counted = new int[6];
+        for (int k = 0; k < 6; k++) {
+            counted[k] = x.status(k) + (k == kind ? 1 : 0);
+        }
+        Object answer = made.get();
+        due(call + " is refused", answer.equals(TyreWorks.NONE) || answer.equals(false), true);
+        due(call + " changes nothing", state(x).equals(before), true);
+        for (int k = 0; k < 6; k++) {
+            due("refusals of kind " + k + " behind " + call, x.status(k), counted[k]);
+        }
     }
 }
