@@ -1,6 +1,7 @@
 import java.io.IOException;
 import java.nio.file.Files;
 import java.nio.file.Path;
+import java.util.function.IntUnaryOperator;
 import java.util.function.Supplier;
 
 /** What the tests share: telling texts and bytes to the tape, and counting answers that are not due. */
@@ -87,6 +88,40 @@ final class Check {
         }
         due("works of " + text, statements, semicolons);
         return x;
+    }
+
+    /** Works with 120 parts 0 of a batch of mix 0, in hour 0. */
+    static TyreWorks stocked(String text) {
+        TyreWorks x = told(text);
+        x.mix(0, 999);
+        x.cut(0, 0, 60);
+        x.cut(0, 0, 60);
+        return x;
+    }
+
+    /** Works with parts as wide as told. */
+    static TyreWorks widths(String sheet, int... widths) {
+        StringBuilder text = new StringBuilder("mix m ripe 0 stale 9;");
+        for (int i = 0; i < widths.length; i++) {
+            text.append("part p").append((char) ('a' + i)).append(" of m takes 1 wide ").append(widths[i]).append(";");
+        }
+        return told(text + sheet);
+    }
+
+    static void hoursTo(TyreWorks x, int hour) {
+        while (x.has(7) < hour) {
+            x.hours(Math.min(999, hour - x.has(7)));
+        }
+        due("HOUR", x.has(7), hour);
+    }
+
+    /** What is asked with numbers that there are none of is TyreWorks.NONE. */
+    static void noneSuch(String call, int count, IntUnaryOperator asked) {
+        for (int which : new int[] {-1, -2, count, count + 1, 32, 64, 256, 1 << 16, Integer.MIN_VALUE, Integer.MAX_VALUE}) {
+            if (which < 0 || which >= count) {
+                due(call + " of " + which, asked.applyAsInt(which), TyreWorks.NONE);
+            }
+        }
     }
 
     /** A text with ^ ahead of the place where its fault is due; the rest of it is told. */

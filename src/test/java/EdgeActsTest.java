@@ -40,20 +40,8 @@ public final class EdgeActsTest {
         Check.close();
     }
 
-    /** 120 parts of a batch of 999 pounds, ahead of hour 1. */
     private static TyreWorks stocked(String more) {
-        TyreWorks x = Check.told(PLAIN + more);
-        x.mix(0, 999);
-        x.cut(0, 0, 60);
-        x.cut(0, 0, 60);
-        return x;
-    }
-
-    private static void hoursTo(TyreWorks x, int hour) {
-        while (x.has(7) < hour) {
-            x.hours(Math.min(999, hour - x.has(7)));
-        }
-        Check.due("HOUR", x.has(7), hour);
+        return Check.stocked(PLAIN + more);
     }
 
     // ---- batches and lots
@@ -77,7 +65,7 @@ public final class EdgeActsTest {
             Check.due("mix of " + n, x.batch(n, 0), n % 2);
             Check.due("pounds of " + n, x.batch(n, 1), n + 1);
         }
-        hoursTo(x, 99);
+        Check.hoursTo(x, 99);
         Check.refused(x, "stale ones count", 2, () -> x.mix(0, 1));
     }
 
@@ -289,7 +277,7 @@ public final class EdgeActsTest {
     private static void hourGoesOnByTheChange() {
         Check.says("HOUR goes on by 1, and by the change from the SIZE that was BUILT ahead (0 if it is that, or the first one)");
         TyreWorks x = stocked("change s t 99;change t s 0;");
-        hoursTo(x, 10);
+        Check.hoursTo(x, 10);
         x.build(0);
         Check.due("the first one", x.has(7), 11);
         x.build(0);
@@ -314,7 +302,7 @@ public final class EdgeActsTest {
         Check.says("HOURS go by one by one (9999 at most; what would go beyond can't be).");
         TyreWorks x = stocked("change s t 3;mix late ripe 0 stale 9;part l of late takes 1 wide 1;size u cures 1;size v cures 1;"
                 + "needs u 1 l;needs v 1 l;change u v 3;change v u 0;");
-        hoursTo(x, 9994);
+        Check.hoursTo(x, 9994);
         x.mix(1, 99);
         x.cut(1, 1, 9);
         Check.due("u", x.build(3), 0);
@@ -325,13 +313,13 @@ public final class EdgeActsTest {
         Check.refused(x, "u", 2, () -> x.build(3));
         TyreWorks y = stocked("mix late ripe 0 stale 9;part l of late takes 1 wide 1;size u cures 1;size v cures 1;"
                 + "needs u 1 l;needs v 1 l;change u v 3;change v u 0;");
-        hoursTo(y, 9995);
+        Check.hoursTo(y, 9995);
         y.mix(1, 99);
         y.cut(1, 1, 9);
         Check.due("u", y.build(3), 0);
         Check.refused(y, "v would be built in 10000", 2, () -> y.build(4));
         Check.due("u", y.build(3), 1);
-        hoursTo(y, 9998);
+        Check.hoursTo(y, 9998);
         Check.due("to 9999", y.build(3), 2);
         Check.refused(y, "to 10000", 2, () -> y.build(3));
     }
@@ -452,7 +440,7 @@ public final class EdgeActsTest {
             TyreWorks x = stocked("rests 3 5;");
             x.mount(0, 0);
             x.build(0);
-            hoursTo(x, 1 + rest);
+            Check.hoursTo(x, 1 + rest);
             if (rest < 3 || rest > 5) {
                 Check.refused(x, "a rest of " + rest, 3, () -> x.cure(0));
             } else {
@@ -463,9 +451,9 @@ public final class EdgeActsTest {
         TyreWorks x = stocked("rests 3 5;");
         x.mount(0, 0);
         x.build(0);
-        hoursTo(x, 4);
+        Check.hoursTo(x, 4);
         x.build(0);
-        hoursTo(x, 7);
+        Check.hoursTo(x, 7);
         Check.refused(x, "one has 6, the next one has 2", 3, () -> x.cure(0));
         x.hours(1);
         Check.due("the next one has 3", x.cure(0), 1);
@@ -556,7 +544,7 @@ public final class EdgeActsTest {
         Check.due("1", x.hours(1), 0);
         Check.due("999", x.hours(999), 0);
         Check.due("HOUR", x.has(7), 1000);
-        hoursTo(x, 9001);
+        Check.hoursTo(x, 9001);
         Check.refused(x, "999 to 10000", 4, () -> x.hours(999));
         Check.due("998 to 9999", x.hours(998), 0);
         Check.refused(x, "1 to 10000", 4, () -> x.hours(1));
@@ -646,7 +634,7 @@ public final class EdgeActsTest {
     private static void endsAheadOfThat() {
         Check.says("(It ends ahead of that, if an HOUR would go beyond 9999.)");
         TyreWorks x = stocked("order t 60 by 9;");
-        hoursTo(x, 9990);
+        Check.hoursTo(x, 9990);
         Check.due("nothing fit", x.goOn(8), 0);
         Check.due("HOUR", x.has(7), 9998);
         Check.due("one hour", x.goOn(200), 0);
@@ -656,7 +644,7 @@ public final class EdgeActsTest {
         Check.due("no refusal", x.status(4), 0);
         TyreWorks y = stocked("mix n ripe 0 stale 99;part q of n takes 1 wide 1;size u cures 1;needs u 1 q;"
                 + "order u 60 by 9;mould mu of u lives 99;");
-        hoursTo(y, 9990);
+        Check.hoursTo(y, 9990);
         y.mix(1, 99);
         y.cut(1, 1, 20);
         y.mount(1, 3);

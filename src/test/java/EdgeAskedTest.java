@@ -1,5 +1,4 @@
 import java.util.Arrays;
-import java.util.function.IntUnaryOperator;
 
 /** Terms III and promises 24 to 44, sentence by sentence, where one names a boundary: what is asked, images, refusals. */
 public final class EdgeAskedTest {
@@ -57,27 +56,8 @@ public final class EdgeAskedTest {
         Check.close();
     }
 
-    private static void noneSuch(String call, int count, IntUnaryOperator asked) {
-        for (int which : new int[] {-1, -2, count, count + 1, 32, 64, 256, 1 << 16, Integer.MIN_VALUE, Integer.MAX_VALUE}) {
-            if (which < 0 || which >= count) {
-                Check.due(call + " of " + which, asked.applyAsInt(which), NONE);
-            }
-        }
-    }
-
     private static TyreWorks stocked(String more) {
-        TyreWorks x = Check.told(PLAIN + more);
-        x.mix(0, 999);
-        x.cut(0, 0, 60);
-        x.cut(0, 0, 60);
-        return x;
-    }
-
-    private static void hoursTo(TyreWorks x, int hour) {
-        while (x.has(7) < hour) {
-            x.hours(Math.min(999, hour - x.has(7)));
-        }
-        Check.due("HOUR", x.has(7), hour);
+        return Check.stocked(PLAIN + more);
     }
 
     /** Cures the next tyre that is green, of whatever size, as its press is mounted. */
@@ -102,8 +82,8 @@ public final class EdgeAskedTest {
             Check.due("q in " + hour, x.stock(1), hour <= 3 ? 1 : 0);
             x.hours(1);
         }
-        noneSuch("stock", 2, x::stock);
-        noneSuch("stock", 0, new TyreWorks()::stock);
+        Check.noneSuch("stock", 2, x::stock);
+        Check.noneSuch("stock", 0, new TyreWorks()::stock);
     }
 
     private static void counts() {
@@ -124,11 +104,11 @@ public final class EdgeAskedTest {
             for (int state = 0; state < 4; state++) {
                 Check.due("count(" + size + ", " + state + ")", x.count(size, state), due[size][state]);
             }
-            noneSuch("count, state", 4, state -> x.count(one, state));
+            Check.noneSuch("count, state", 4, state -> x.count(one, state));
         }
         for (int state = 0; state < 4; state++) {
             int one = state;
-            noneSuch("count, size", 3, size -> x.count(size, one));
+            Check.noneSuch("count, size", 3, size -> x.count(size, one));
         }
     }
 
@@ -138,7 +118,7 @@ public final class EdgeAskedTest {
         TyreWorks x = Check.told("mix m ripe 0 stale 9;mix n ripe 0 stale 999;"
                 + "part p of m takes 1 wide 1;part q of n takes 1 wide 1;"
                 + "size s cures 1;size t cures 1;size none cures 1;needs s 3 p;needs s 2 q;needs t 9 q;");
-        noneSuch("could", 3, x::could);
+        Check.noneSuch("could", 3, x::could);
         Check.due("no NEEDS", x.could(2), NONE);
         Check.due("no lots", x.could(0), 0);
         x.mix(0, 99);
@@ -155,14 +135,14 @@ public final class EdgeAskedTest {
         Check.due("9 by 3, 7 by 2", x.could(0), 3);
         x.build(0);
         Check.due("6 by 3, 5 by 2", x.could(0), 2);
-        hoursTo(x, 9);
+        Check.hoursTo(x, 9);
         Check.due("p stale in the next hour", x.could(0), 2);
-        hoursTo(x, 10);
+        Check.hoursTo(x, 10);
         Check.due("p is stale", x.could(0), 0);
-        hoursTo(x, 9999);
+        Check.hoursTo(x, 9999);
         Check.due("q is stale", x.could(1), 0);
         TyreWorks y = Check.told(PLAIN + "change s t 99;");
-        hoursTo(y, 9998);
+        Check.hoursTo(y, 9998);
         y.mix(0, 99);
         y.cut(0, 0, 9);
         Check.due("build s", y.build(0), 0);
@@ -180,7 +160,7 @@ public final class EdgeAskedTest {
         x.cut(23, 0, 3);
         x.cut(0, 0, 3);
         x.cut(23, 0, 2);
-        noneSuch("no tyres", 0, k -> x.trace(23, k));
+        Check.noneSuch("no tyres", 0, k -> x.trace(23, k));
         x.build(0);
         x.build(0);
         x.build(1);
@@ -193,10 +173,10 @@ public final class EdgeAskedTest {
             Check.due("trace(23, " + k + ")", x.trace(23, k), of23[k]);
             Check.due("trace(0, " + k + ")", x.trace(0, k), of0[k]);
         }
-        noneSuch("of 23", 3, k -> x.trace(23, k));
-        noneSuch("of 0", 3, k -> x.trace(0, k));
-        noneSuch("of 1", 0, k -> x.trace(1, k));
-        noneSuch("no such batch", 24, batch -> x.trace(batch, 0));
+        Check.noneSuch("of 23", 3, k -> x.trace(23, k));
+        Check.noneSuch("of 0", 3, k -> x.trace(0, k));
+        Check.noneSuch("of 1", 0, k -> x.trace(1, k));
+        Check.noneSuch("no such batch", 24, batch -> x.trace(batch, 0));
     }
 
     private static void othersBits() {
@@ -217,8 +197,8 @@ public final class EdgeAskedTest {
         Check.due("of 0", x.others(0), 1 << 23 | 1 << 5);
         Check.due("of 5", x.others(5), 1);
         Check.due("of 1", x.others(1), 0);
-        noneSuch("others", 24, x::others);
-        noneSuch("others", 0, new TyreWorks()::others);
+        Check.noneSuch("others", 24, x::others);
+        Check.noneSuch("others", 0, new TyreWorks()::others);
     }
 
     // ---- which are bad
@@ -280,18 +260,10 @@ public final class EdgeAskedTest {
         }
         x.scrap(0);
         Check.due("scrapped", x.law(0), NONE);
-        noneSuch("law", 8, x::law);
+        Check.noneSuch("law", 8, x::law);
     }
 
     // ---- sheets
-
-    private static TyreWorks widths(String sheet, int... widths) {
-        StringBuilder text = new StringBuilder("mix m ripe 0 stale 9;");
-        for (int i = 0; i < widths.length; i++) {
-            text.append("part p").append((char) ('a' + i)).append(" of m takes 1 wide ").append(widths[i]).append(";");
-        }
-        return Check.told(text + sheet);
-    }
 
     private static void sheets(TyreWorks x, int due, int waste, int... parts) {
         Check.bytes(x, parts);
@@ -302,7 +274,7 @@ public final class EdgeAskedTest {
 
     private static void toldPartsTwelveAtMost() {
         Check.says("the tape (it goes) as bytes, the PARTS' numbers (1 to 12)");
-        TyreWorks x = widths("sheet 12 splice 0;", 1, 6, 7);
+        TyreWorks x = Check.widths("sheet 12 splice 0;", 1, 6, 7);
         sheets(x, NONE, NONE);
         Check.due("none told", x.status(5), 1);
         sheets(x, 1, 11, 0);
@@ -318,7 +290,7 @@ public final class EdgeAskedTest {
 
     private static void eachOnce() {
         Check.says("told PARTS (12 at most), each once");
-        TyreWorks x = widths("sheet 10 splice 0;", 5, 3);
+        TyreWorks x = Check.widths("sheet 10 splice 0;", 5, 3);
         sheets(x, 1, 5, 0);
         sheets(x, 1, 0, 0, 0);
         sheets(x, 2, 5, 0, 0, 0);
@@ -329,7 +301,7 @@ public final class EdgeAskedTest {
     private static void asWideAsTold() {
         Check.says("a sheet is as wide as told");
         for (int wide = 30; wide <= 400; wide += 37) {
-            TyreWorks x = widths("sheet " + wide + " splice 0;", 10, wide % 10 + 1);
+            TyreWorks x = Check.widths("sheet " + wide + " splice 0;", 10, wide % 10 + 1);
             int[] parts = new int[Math.min(12, wide / 10)];
             sheets(x, 1, wide - 10 * parts.length, parts);
             if (parts.length < 12) {
@@ -338,27 +310,27 @@ public final class EdgeAskedTest {
                 sheets(x, 2, 2 * wide - 10 * parts.length - wide % 10 - 1, more);
             }
         }
-        sheets(widths("sheet 1 splice 9;", 1), 2, 0, 0, 0);
-        sheets(widths("sheet 400 splice 9;", 99), 1, 400 - 4 * 99 + 99, 0, 0, 0);
-        sheets(widths("sheet 400 splice 0;", 99), 1, 4, 0, 0, 0, 0);
-        sheets(widths("sheet 400 splice 1;", 99), 1, 4, 0, 0, 0, 0);
-        sheets(widths("sheet 400 splice 2;", 99), 2, 404, 0, 0, 0, 0);
+        sheets(Check.widths("sheet 1 splice 9;", 1), 2, 0, 0, 0);
+        sheets(Check.widths("sheet 400 splice 9;", 99), 1, 400 - 4 * 99 + 99, 0, 0, 0);
+        sheets(Check.widths("sheet 400 splice 0;", 99), 1, 4, 0, 0, 0, 0);
+        sheets(Check.widths("sheet 400 splice 1;", 99), 1, 4, 0, 0, 0, 0);
+        sheets(Check.widths("sheet 400 splice 2;", 99), 2, 404, 0, 0, 0, 0);
     }
 
     private static void spliceBetweenEachTwo() {
         Check.says("PARTS side by side on one need their widths and splice between each two");
-        sheets(widths("sheet 10 splice 9;", 10), 1, 0, 0);
-        sheets(widths("sheet 20 splice 2;", 9, 10), 1, 2, 0, 0);
-        sheets(widths("sheet 20 splice 2;", 9, 10), 2, 21, 0, 1);
-        sheets(widths("sheet 34 splice 2;", 10), 1, 4, 0, 0, 0);
-        sheets(widths("sheet 33 splice 2;", 10), 2, 36, 0, 0, 0);
-        sheets(widths("sheet 23 splice 1;", 1), 1, 11, 0, 0, 0, 0, 0, 0, 0, 0, 0, 0, 0, 0);
-        sheets(widths("sheet 22 splice 1;", 1), 2, 32, 0, 0, 0, 0, 0, 0, 0, 0, 0, 0, 0, 0);
+        sheets(Check.widths("sheet 10 splice 9;", 10), 1, 0, 0);
+        sheets(Check.widths("sheet 20 splice 2;", 9, 10), 1, 2, 0, 0);
+        sheets(Check.widths("sheet 20 splice 2;", 9, 10), 2, 21, 0, 1);
+        sheets(Check.widths("sheet 34 splice 2;", 10), 1, 4, 0, 0, 0);
+        sheets(Check.widths("sheet 33 splice 2;", 10), 2, 36, 0, 0, 0);
+        sheets(Check.widths("sheet 23 splice 1;", 1), 1, 11, 0, 0, 0, 0, 0, 0, 0, 0, 0, 0, 0, 0);
+        sheets(Check.widths("sheet 22 splice 1;", 1), 2, 32, 0, 0, 0, 0, 0, 0, 0, 0, 0, 0, 0, 0);
     }
 
     private static void tooWideOrNoneSuch() {
         Check.says("the fewest sheets; NONE if one is too wide, or it is none such.");
-        TyreWorks x = widths("sheet 40 splice 0;", 40, 41);
+        TyreWorks x = Check.widths("sheet 40 splice 0;", 40, 41);
         sheets(x, 1, 0, 0);
         sheets(x, NONE, NONE, 1);
         sheets(x, NONE, NONE, 0, 1);
@@ -369,14 +341,14 @@ public final class EdgeAskedTest {
         sheets(x, NONE, NONE, 128);
         Check.due("none such", x.status(5), 3);
         sheets(new TyreWorks(), NONE, NONE, 0);
-        TyreWorks y = widths("sheet 20 splice 0;", 11, 9, 8, 12, 10);
+        TyreWorks y = Check.widths("sheet 20 splice 0;", 11, 9, 8, 12, 10);
         sheets(y, 3, 0, 0, 1, 2, 3, 4, 4);
         sheets(y, 3, 10, 4, 1, 2, 0, 3);
     }
 
     private static void wasteOfTheLatest() {
         Check.says("WASTE of the latest sheets(); NONE ahead of any, or if that was NONE.");
-        TyreWorks x = widths("sheet 40 splice 0;", 30, 41);
+        TyreWorks x = Check.widths("sheet 40 splice 0;", 30, 41);
         Check.due("ahead of any", x.waste(), NONE);
         Check.bytes(x, 0);
         x.sheets();
@@ -394,8 +366,8 @@ public final class EdgeAskedTest {
         x.sheets();
         Check.due("none such", x.waste(), NONE);
         Check.says("WASTE: sheet times these less all widths.");
-        sheets(widths("sheet 40 splice 9;", 30), 3, 30, 0, 0, 0);
-        sheets(widths("sheet 80 splice 9;", 30), 2, 70, 0, 0, 0);
+        sheets(Check.widths("sheet 40 splice 9;", 30), 3, 30, 0, 0, 0);
+        sheets(Check.widths("sheet 80 splice 9;", 30), 2, 70, 0, 0, 0);
     }
 
     // ---- the least change
@@ -427,7 +399,7 @@ public final class EdgeAskedTest {
         TyreWorks x = Check.told("size a cures 1;size b cures 1;size c cures 1;size d cures 1;size e cures 1;size f cures 1;"
                 + "order f 1 by 1;order a 1 by 1;order e 1 by 1;order b 1 by 1;order d 1 by 1;order c 1 by 1;order a 9 by 1;");
         route(x, 5, 0, 1, 2, 3, 4, 5);
-        noneSuch("route", 6, k -> k == NONE ? NONE : x.route(k));
+        Check.noneSuch("route", 6, k -> k == NONE ? NONE : x.route(k));
     }
 
     private static void leastOnesFirstByNumbers() {
@@ -482,11 +454,11 @@ public final class EdgeAskedTest {
         Check.due("the other one has no mould", x.starves(1), 4);
         x.cure(0);
         Check.due("it cures", x.starves(0), 4 + 5);
-        hoursTo(x, 8);
+        Check.hoursTo(x, 8);
         Check.due("it cures", x.starves(0), 9);
-        hoursTo(x, 9);
+        Check.hoursTo(x, 9);
         Check.due("now", x.starves(0), 9);
-        hoursTo(x, 12);
+        Check.hoursTo(x, 12);
         Check.due("not in hours gone by", x.starves(0), 12);
         Check.due("nothing was done", x.has(10) + x.has(11), 2);
     }
@@ -524,25 +496,25 @@ public final class EdgeAskedTest {
     private static void starvesByTheLastHour() {
         Check.says("STARVES: the HOUR in which a PRESS does");
         TyreWorks x = Check.told(PLAIN);
-        hoursTo(x, 9990);
+        Check.hoursTo(x, 9990);
         x.mix(0, 99);
         x.cut(0, 0, 9);
         x.mount(0, 0);
         x.build(0);
-        hoursTo(x, 9994);
+        Check.hoursTo(x, 9994);
         Check.due("in 9999", x.starves(0), 9999);
         x.hours(1);
         Check.due("no HOUR is 10000", x.starves(0), NONE);
         Check.due("without a mould", x.starves(1), 9995);
-        hoursTo(x, 9999);
+        Check.hoursTo(x, 9999);
         Check.due("without a mould", x.starves(1), 9999);
     }
 
     private static void noSuchPressStarves() {
         Check.says("STARVES: the HOUR in which a PRESS does; NONE if there is none such.");
         TyreWorks x = stocked("");
-        noneSuch("starves", 2, x::starves);
-        noneSuch("starves", 0, new TyreWorks()::starves);
+        Check.noneSuch("starves", 2, x::starves);
+        Check.noneSuch("starves", 0, new TyreWorks()::starves);
     }
 
     // ---- orders that are kept
@@ -620,7 +592,7 @@ public final class EdgeAskedTest {
         }
         Check.due("cured in 8, 13 and 19", x.count(0, 2), 3);
         Check.due("HOUR", x.has(7), 21);
-        hoursTo(x, 500);
+        Check.hoursTo(x, 500);
         Check.due("none by 5", x.kept(0), 0);
         Check.due("two by 20", x.kept(1), 1);
         Check.due("three by 21", x.kept(2), 1);
@@ -635,13 +607,13 @@ public final class EdgeAskedTest {
         x.build(0);
         Check.due("in five hours", x.when(0), 6);
         x.cure(0);
-        hoursTo(x, 6);
+        Check.hoursTo(x, 6);
         Check.due("now", x.when(0), 6);
-        hoursTo(x, 777);
+        Check.hoursTo(x, 777);
         Check.due("now", x.when(0), 777);
         Check.due("never two", x.when(1), NONE);
         TyreWorks y = Check.told(PLAIN + "order s 1 by 9999;order s 1 by 9999;");
-        hoursTo(y, 9987);
+        Check.hoursTo(y, 9987);
         y.mix(0, 99);
         y.cut(0, 0, 9);
         y.mount(0, 0);
@@ -659,10 +631,10 @@ public final class EdgeAskedTest {
     private static void noSuchOrder() {
         Check.says("KEPT: 1, 0; NONE if there is no such ORDER.");
         TyreWorks x = stocked("order s 1 by 9;order t 1 by 9;");
-        noneSuch("kept", 2, x::kept);
-        noneSuch("when", 2, x::when);
-        noneSuch("kept", 0, new TyreWorks()::kept);
-        noneSuch("when", 0, new TyreWorks()::when);
+        Check.noneSuch("kept", 2, x::kept);
+        Check.noneSuch("when", 2, x::when);
+        Check.noneSuch("kept", 0, new TyreWorks()::kept);
+        Check.noneSuch("when", 0, new TyreWorks()::when);
     }
 
     // ---- waves
@@ -766,7 +738,7 @@ public final class EdgeAskedTest {
         wave(x, NONE, 80, 70, 60, 50, 40, 30, 20, 10);
         Check.due("90 and 90", x.spread(0, 0), 0);
         Check.due("20 and 100", x.spread(0, 7), 80);
-        noneSuch("spread", 1, tyre -> x.spread(tyre, 0));
+        Check.noneSuch("spread", 1, tyre -> x.spread(tyre, 0));
     }
 
     private static void bestTurnTheFirst() {
@@ -785,8 +757,8 @@ public final class EdgeAskedTest {
         wave(x, NONE, 9, 9, 9, 9, 9, 9, 9, 0);
         wave(x, 0, 9, 0, 0, 0, 0, 0, 0, 0);
         Check.due("7 alone", x.turn(0), 7);
-        noneSuch("turn", 1, x::turn);
-        noneSuch("turn", 0, new TyreWorks()::turn);
+        Check.noneSuch("turn", 1, x::turn);
+        Check.noneSuch("turn", 0, new TyreWorks()::turn);
     }
 
     private static void matchTheFirstOfLikeOnes() {
@@ -831,7 +803,7 @@ public final class EdgeAskedTest {
         TyreWorks x = Check.told("mix m ripe 0 stale 3;mix n ripe 0 stale 999;"
                 + "part p of m takes 7 wide 1;part q of n takes 5 wide 1;"
                 + "size s cures 3;needs s 3 p;needs s 2 q;press ra;mould u of s lives 9;");
-        noneSuch("pounds", 7, x::pounds);
+        Check.noneSuch("pounds", 7, x::pounds);
         x.mix(0, 500);
         x.mix(1, 300);
         x.cut(0, 0, 30);
@@ -900,7 +872,7 @@ public final class EdgeAskedTest {
         Check.says("HOUR (two bytes, the higher first)");
         for (int hour : new int[] {1, 255, 256, 257, 511, 512, 4095, 9998, 9999}) {
             TyreWorks x = new TyreWorks();
-            hoursTo(x, hour);
+            Check.hoursTo(x, hour);
             int[] bytes = image(x);
             Check.due("the higher of " + hour, bytes[0], hour / 256);
             Check.due("the lower of " + hour, bytes[1], hour % 256);
@@ -941,20 +913,20 @@ public final class EdgeAskedTest {
     private static void bytesOfTheLatestImage() {
         Check.says("Byte k of the latest image(); NONE if there is none such.");
         TyreWorks x = stocked("");
-        noneSuch("octet ahead of any", 0, x::octet);
+        Check.noneSuch("octet ahead of any", 0, x::octet);
         x.build(0);
         Check.due("image", x.image(), 9);
-        noneSuch("octet", 9, x::octet);
+        Check.noneSuch("octet", 9, x::octet);
         x.build(0);
         Check.due("one tyre still", x.octet(2), 1);
-        noneSuch("octet still", 9, x::octet);
+        Check.noneSuch("octet still", 9, x::octet);
         Check.due("image", x.image(), 14);
         Check.due("two tyres now", x.octet(2), 2);
-        noneSuch("octet", 14, x::octet);
+        Check.noneSuch("octet", 14, x::octet);
         Check.works(x, "");
         Check.due("the latest image", x.octet(2), 2);
         Check.due("image", x.image(), 4);
-        noneSuch("octet", 4, x::octet);
+        Check.noneSuch("octet", 4, x::octet);
     }
 
     private static void refusalsSoFar() {
@@ -986,7 +958,7 @@ public final class EdgeAskedTest {
 
     private static void tooWideIsNoRefusal() {
         Check.says("5 of sheets() that are none such (too wide is none) and wave().");
-        TyreWorks x = widths("sheet 5 splice 0;", 5, 6);
+        TyreWorks x = Check.widths("sheet 5 splice 0;", 5, 6);
         sheets(x, NONE, NONE, 1);
         sheets(x, NONE, NONE, 0, 1);
         Check.due("too wide is none", x.status(5), 0);
@@ -1000,7 +972,7 @@ public final class EdgeAskedTest {
 
     private static void noSuchRefusals() {
         Check.says("and wave(). NONE for others.");
-        noneSuch("status", 6, new TyreWorks()::status);
-        noneSuch("status", 6, stocked("")::status);
+        Check.noneSuch("status", 6, new TyreWorks()::status);
+        Check.noneSuch("status", 6, stocked("")::status);
     }
 }

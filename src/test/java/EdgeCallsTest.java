@@ -1,5 +1,3 @@
-import java.util.function.IntUnaryOperator;
-
 /** Promises 1 to 14, sentence by sentence, where one names a boundary: the tape, works() and what is told. */
 public final class EdgeCallsTest {
     private static final int NONE = TyreWorks.NONE;
@@ -38,15 +36,6 @@ public final class EdgeCallsTest {
         noSuchPress();
         noSuchMould();
         Check.close();
-    }
-
-    /** What is asked with numbers that there are none of is NONE. */
-    private static void noneSuch(String call, int count, IntUnaryOperator asked) {
-        for (int which : new int[] {-1, -2, count, count + 1, 32, 64, 256, 1 << 16, Integer.MIN_VALUE, Integer.MAX_VALUE}) {
-            if (which < 0 || which >= count) {
-                Check.due(call + " of " + which, asked.applyAsInt(which), NONE);
-            }
-        }
     }
 
     /** Hour 10 or so: a tyre that is green, one in a press, one cured, one scrapped. */
@@ -294,14 +283,14 @@ public final class EdgeCallsTest {
         TyreWorks x = new TyreWorks();
         Check.due("ahead of any", x.fault(0), 0);
         Check.due("ahead of any", x.fault(1), NONE);
-        noneSuch("fault", 2, x::fault);
+        Check.noneSuch("fault", 2, x::fault);
         Check.works(x, "press a;");
         Check.due("without", x.fault(0), 0);
         Check.due("without", x.fault(1), NONE);
         Check.works(x, "!");
         Check.due("a fault", x.fault(0), 1);
         Check.due("its place 0", x.fault(1), 0);
-        noneSuch("fault", 2, x::fault);
+        Check.noneSuch("fault", 2, x::fault);
     }
 
     private static void faultsOfTheLatest() {
@@ -328,7 +317,7 @@ public final class EdgeCallsTest {
         for (int what = 0; what < 12; what++) {
             Check.due("has(" + what + ")", x.has(what), due[what]);
         }
-        noneSuch("has", 12, x::has);
+        Check.noneSuch("has", 12, x::has);
         x.mount(0, 1);
         Check.due("a refused mounting is none", x.has(11), 2);
         TyreWorks y = Check.told(TEXT);
@@ -336,7 +325,7 @@ public final class EdgeCallsTest {
         y.mount(0, 1);
         y.mount(1, 0);
         Check.due("mounted again counts", y.has(11), 3);
-        noneSuch("has", 12, new TyreWorks()::has);
+        Check.noneSuch("has", 12, new TyreWorks()::has);
     }
 
     private static void letters() {
@@ -347,7 +336,7 @@ public final class EdgeCallsTest {
         int[] counts = {2, 2, 3, 3, 2};
         for (int kind = 0; kind < 5; kind++) {
             int one = kind;
-            noneSuch("which of kind " + kind, counts[kind], which -> x.letter(one, which, 0));
+            Check.noneSuch("which of kind " + kind, counts[kind], which -> x.letter(one, which, 0));
             for (int which = 0; which < counts[kind]; which++) {
                 int name = which;
                 int length = 0;
@@ -355,10 +344,10 @@ public final class EdgeCallsTest {
                     length++;
                 }
                 Check.due("length of " + kind + " " + which, length, kind == 0 && which == 1 ? 6 : kind < 3 ? 1 : 2);
-                noneSuch("letter of " + kind + " " + which, length, k -> x.letter(one, name, k));
+                Check.noneSuch("letter of " + kind + " " + which, length, k -> x.letter(one, name, k));
             }
         }
-        noneSuch("kind", 5, kind -> x.letter(kind, 0, 0));
+        Check.noneSuch("kind", 5, kind -> x.letter(kind, 0, 0));
     }
 
     private static void needs() {
@@ -370,10 +359,10 @@ public final class EdgeCallsTest {
             for (int part = 0; part < 2; part++) {
                 Check.due("needs(" + size + ", " + part + ")", x.needs(size, part), due[size][part]);
             }
-            noneSuch("needs, part", 2, part -> x.needs(one, part));
+            Check.noneSuch("needs, part", 2, part -> x.needs(one, part));
         }
-        noneSuch("needs, size", 3, size -> x.needs(size, 0));
-        noneSuch("needs, both", 3, both -> x.needs(both, both));
+        Check.noneSuch("needs, size", 3, size -> x.needs(size, 0));
+        Check.noneSuch("needs, both", 3, both -> x.needs(both, both));
     }
 
     private static void changes() {
@@ -385,10 +374,10 @@ public final class EdgeCallsTest {
             for (int to = 0; to < 3; to++) {
                 Check.due("change(" + from + ", " + to + ")", x.change(from, to), due[from][to]);
             }
-            noneSuch("change, to", 3, to -> x.change(one, to));
-            noneSuch("change, from", 3, none -> x.change(none, one));
+            Check.noneSuch("change, to", 3, to -> x.change(one, to));
+            Check.noneSuch("change, from", 3, none -> x.change(none, one));
         }
-        noneSuch("change, both", 3, both -> x.change(both, both));
+        Check.noneSuch("change, both", 3, both -> x.change(both, both));
     }
 
     // ---- what is made
@@ -424,24 +413,24 @@ public final class EdgeCallsTest {
     private static void noSuchBatch() {
         Check.says("ahead of ripe all of them). NONE if there is none such, or for others.");
         TyreWorks x = Check.told(TEXT);
-        noneSuch("batch ahead of any", 0, batch -> x.batch(batch, 0));
+        Check.noneSuch("batch ahead of any", 0, batch -> x.batch(batch, 0));
         x.mix(0, 9);
         x.mix(1, 9);
-        noneSuch("batch", 2, batch -> x.batch(batch, 0));
-        noneSuch("batch what", 6, what -> x.batch(0, what));
-        noneSuch("batch what", 6, what -> x.batch(1, what));
+        Check.noneSuch("batch", 2, batch -> x.batch(batch, 0));
+        Check.noneSuch("batch what", 6, what -> x.batch(0, what));
+        Check.noneSuch("batch what", 6, what -> x.batch(1, what));
     }
 
     private static void noSuchLot() {
         Check.says("3 whether it is FIT. NONE if there is none such, or for others.");
         TyreWorks x = Check.told(TEXT);
-        noneSuch("lot ahead of any", 0, lot -> x.lot(lot, 0));
+        Check.noneSuch("lot ahead of any", 0, lot -> x.lot(lot, 0));
         x.mix(0, 100);
         x.hours(3);
         x.cut(0, 1, 7);
         x.cut(0, 0, 1);
-        noneSuch("lot", 2, lot -> x.lot(lot, 0));
-        noneSuch("lot what", 4, what -> x.lot(0, what));
+        Check.noneSuch("lot", 2, lot -> x.lot(lot, 0));
+        Check.noneSuch("lot what", 4, what -> x.lot(0, what));
         int[] due = {1, 0, 7, 1};
         for (int what = 0; what < 4; what++) {
             Check.due("lot what " + what, x.lot(0, what), due[what]);
@@ -455,15 +444,15 @@ public final class EdgeCallsTest {
     private static void noSuchTyre() {
         Check.says("8 whether it is BAD (NONE unless it is CURED). NONE if there is none such, or for others.");
         TyreWorks x = Check.told(TEXT);
-        noneSuch("tyre ahead of any", 0, tyre -> x.tyre(tyre, 0));
+        Check.noneSuch("tyre ahead of any", 0, tyre -> x.tyre(tyre, 0));
         TyreWorks y = busy();
         for (int what = 0; what < 9; what++) {
             int one = what;
-            noneSuch("tyre what " + what, 4, tyre -> y.tyre(tyre, one));
+            Check.noneSuch("tyre what " + what, 4, tyre -> y.tyre(tyre, one));
         }
         for (int tyre = 0; tyre < 4; tyre++) {
             int one = tyre;
-            noneSuch("what of " + tyre, 9, what -> y.tyre(one, what));
+            Check.noneSuch("what of " + tyre, 9, what -> y.tyre(one, what));
         }
     }
 
@@ -540,8 +529,8 @@ public final class EdgeCallsTest {
         TyreWorks x = busy();
         for (int k = 0; k < 3; k++) {
             int one = k;
-            noneSuch("press what " + k, 2, press -> x.press(press, one));
-            noneSuch("what of a press", 3, what -> x.press(one % 2, what));
+            Check.noneSuch("press what " + k, 2, press -> x.press(press, one));
+            Check.noneSuch("what of a press", 3, what -> x.press(one % 2, what));
         }
     }
 
@@ -550,8 +539,8 @@ public final class EdgeCallsTest {
         TyreWorks x = busy();
         for (int k = 0; k < 4; k++) {
             int one = k;
-            noneSuch("mould what " + k, 2, mould -> x.mould(mould, one));
-            noneSuch("what of a mould", 4, what -> x.mould(one % 2, what));
+            Check.noneSuch("mould what " + k, 2, mould -> x.mould(mould, one));
+            Check.noneSuch("what of a mould", 4, what -> x.mould(one % 2, what));
         }
     }
 }

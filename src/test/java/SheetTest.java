@@ -13,14 +13,6 @@ public final class SheetTest {
         Check.close();
     }
 
-    private static TyreWorks told(String sheet, int... widths) {
-        StringBuilder text = new StringBuilder("mix m ripe 0 stale 9;");
-        for (int i = 0; i < widths.length; i++) {
-            text.append("part p").append((char) ('a' + i)).append(" of m takes 1 wide ").append(widths[i]).append(";");
-        }
-        return Check.told(text + sheet);
-    }
-
     private static void sheets(TyreWorks x, int due, int waste, int... parts) {
         Check.bytes(x, parts);
         Check.due("sheets", x.sheets(), due);
@@ -29,7 +21,7 @@ public final class SheetTest {
     }
 
     private static void cuts() {
-        TyreWorks x = told("sheet 100 splice 2;", 49, 50, 30, 99);
+        TyreWorks x = Check.widths("sheet 100 splice 2;", 49, 50, 30, 99);
         Check.due("waste ahead of any", x.waste(), NONE);
         sheets(x, 1, 51, 0);
         sheets(x, 1, 2, 0, 0);
@@ -41,16 +33,16 @@ public final class SheetTest {
         sheets(x, 4, 40, 2, 2, 2, 2, 2, 2, 2, 2, 2, 2, 2, 2);
         Check.due("works() leaves it", Check.works(x, ""), 0);
         Check.due("the latest waste", x.waste(), 40);
-        x = told("sheet 10 splice 0;", 4, 3, 2);
+        x = Check.widths("sheet 10 splice 0;", 4, 3, 2);
         sheets(x, 2, 0, 0, 0, 1, 1, 1, 1);
         sheets(x, 3, 0, 0, 1, 1, 0, 1, 1, 0, 1, 1);
-        x = told("sheet 99 splice 9;", 99, 45, 46);
+        x = Check.widths("sheet 99 splice 9;", 99, 45, 46);
         sheets(x, 1, 9, 1, 1);
         sheets(x, 2, 107, 1, 2);
     }
 
     private static void refuses() {
-        TyreWorks x = told("sheet 100 splice 2;", 49, 50);
+        TyreWorks x = Check.widths("sheet 100 splice 2;", 49, 50);
         sheets(x, 1, 51, 0);
         sheets(x, NONE, NONE);
         sheets(x, NONE, NONE, 2);
@@ -62,7 +54,7 @@ public final class SheetTest {
     }
 
     private static void tooWide() {
-        TyreWorks x = told("sheet 40 splice 2;", 40, 41);
+        TyreWorks x = Check.widths("sheet 40 splice 2;", 40, 41);
         sheets(x, NONE, NONE, 0, 1);
         sheets(x, NONE, NONE, 1, 0);
         sheets(x, NONE, NONE, 1);
@@ -73,10 +65,10 @@ public final class SheetTest {
     }
 
     private static void withoutASheetTold() {
-        TyreWorks x = told("", 50, 51);
+        TyreWorks x = Check.widths("", 50, 51);
         sheets(x, 1, 0, 0, 0);
         sheets(x, 2, 98, 1, 1);
-        x = told("sheet 10 splice 3;sheet 60 splice 0;", 30, 51);
+        x = Check.widths("sheet 10 splice 3;sheet 60 splice 0;", 30, 51);
         sheets(x, 1, 0, 0, 0);
     }
 
@@ -89,7 +81,7 @@ public final class SheetTest {
             for (int i = 0; i < 8; i++) {
                 widths[i] = 1 + random.nextInt(Math.min(99, sheet));
             }
-            TyreWorks x = told("sheet " + sheet + " splice " + splice + ";", widths);
+            TyreWorks x = Check.widths("sheet " + sheet + " splice " + splice + ";", widths);
             int[] parts = new int[1 + random.nextInt(9)];
             int all = 0;
             for (int i = 0; i < parts.length; i++) {
