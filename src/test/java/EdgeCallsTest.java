@@ -340,7 +340,7 @@ public final class EdgeCallsTest {
             for (int which = 0; which < counts[kind]; which++) {
                 int name = which;
                 int length = 0;
-                while (x.letter(kind, which, length) != NONE) {
+                while (length < 9 && x.letter(kind, which, length) != NONE) {
                     length++;
                 }
                 Check.due("length of " + kind + " " + which, length, kind == 0 && which == 1 ? 6 : kind < 3 ? 1 : 2);
