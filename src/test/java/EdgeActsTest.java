@@ -35,6 +35,7 @@ public final class EdgeActsTest {
         curedInThem();
         goOnForHours();
         goesOnOrSomewhatMore();
+        eachPressByNumbers();
         theFirstOrderThatCanBeBuilt();
         endsAheadOfThat();
         Check.close();
@@ -604,6 +605,26 @@ public final class EdgeActsTest {
         TyreWorks x = stocked("order s 9 by 9;");
         Check.due("just n", x.goOn(5), 5);
         Check.due("HOUR", x.has(7), 5);
+    }
+
+    private static void eachPressByNumbers() {
+        Check.says("each PRESS, by numbers, CURES, if it can; then of ORDERS, in the order told");
+        TyreWorks x = stocked("order t 1 by 9;");
+        x.mount(0, 2);
+        x.mount(1, 0);
+        x.build(0);
+        x.goOn(1);
+        Check.due("one tyre, into the first press", x.tyre(0, 6), 0);
+        x.scrap(1);
+        x.build(0);
+        x.build(0);
+        x.hours(9);
+        x.clean(2);
+        x.goOn(1);
+        Check.due("two tyres, the first into the first press", x.tyre(2, 6), 0);
+        Check.due("the second into the second", x.tyre(3, 6), 1);
+        Check.due("then t is built", x.tyre(4, 0), 1);
+        Check.due("in a later hour", x.tyre(4, 2) - x.tyre(2, 2) - x.tyre(2, 7), 2);
     }
 
     private static void theFirstOrderThatCanBeBuilt() {

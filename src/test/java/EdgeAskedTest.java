@@ -486,6 +486,15 @@ public final class EdgeAskedTest {
             y.build(0);
         }
         Check.due("its mould lives two", y.starves(0), 15);
+        y.cure(0);
+        Check.due("of which it has had one", y.starves(0), 15);
+        y.hours(5);
+        y.cure(0);
+        Check.due("of which it has had both", y.starves(0), 15);
+        y.hours(5);
+        Check.due("now", y.starves(0), 15);
+        y.clean(2);
+        Check.due("two since it was clean", y.starves(0), 25);
         TyreWorks z = stocked("rests 3 999;order s 1 by 99;");
         z.mount(0, 0);
         z.build(0);
