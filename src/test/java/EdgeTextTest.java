@@ -538,8 +538,19 @@ public final class EdgeTextTest {
         Check.fault(1, "bad when [[all]^");
         Check.fault(1, "bad when min(1,^");
         Check.fault(1, "rests 1 2^");
-        Check.fault(1, "rests 1 2;".repeat(159) + "press abc^");
+        Check.fault(1, "rests 1 2;".repeat(159) + "press abcd^");
         Check.fault(1, "rests 1 2;".repeat(159) + "press abc ^");
+        Check.fault(1, "rests 1 2;".repeat(159) + "rests 1 20^");
+        Check.fault(1, "rests 1 2;".repeat(159) + "rests  1 2^");
+        Check.fault(1, "rests 1 2;".repeat(159) + "press    ^!");
+        for (int n = 1; n < 20; n++) {
+            TyreWorks x = new TyreWorks();
+            Check.text(x, "press abcdef;rests 1;".substring(0, 20));
+            x.end(n);
+            Check.due("of the first " + n + " bytes alone", x.works(), n == 13 ? 1 : NONE);
+            Check.due("fault", x.fault(0), n == 13 ? 0 : 1);
+            Check.due("place", x.fault(1), n < 5 ? 0 : n == 13 ? NONE : n < 18 && n > 13 ? 13 : n);
+        }
     }
 
     private static void seventhLetters() {

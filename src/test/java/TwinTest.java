@@ -42,6 +42,7 @@ public final class TwinTest {
             new TwinTest(seed).run(seed);
             new TwinTest(seed).faults(seed);
         }
+        new TwinTest(from).full();
         Check.close();
     }
 
@@ -197,6 +198,61 @@ public final class TwinTest {
         for (int n = 0; n < presses; n++) {
             same("mount", n, below(moulds));
         }
+    }
+
+    /** All rows full, then told anew: what was in them must not shine through. */
+    private void full() throws ReflectiveOperationException {
+        Check.due("statements", works(fullText()), 102);
+        for (int n = 0; n <= 24; n++) {
+            same("mix", n % 6, 999);
+        }
+        for (int n = 0; n <= 40; n++) {
+            same("cut", n % 8 % 6 + 6 * (n / 8 % 4), n % 8, 60);
+        }
+        for (int press = 0; press < 4; press++) {
+            same("mount", press, press + 2);
+        }
+        for (int n = 0; n <= 60; n++) {
+            same("build", n % 6);
+            same("cure", n % 4);
+        }
+        Check.due("batches, lots, tyres", twin.has(8) * 10000 + twin.has(9) * 100 + twin.has(10), 244060);
+        askAll();
+        tell(new int[] {7, 6, 5, 4, 3, 2, 1, 0, 7, 6, 5, 4});
+        same("sheets");
+        same("goOn", 50);
+        askAll();
+        works("mix m ripe 0 stale 9;part p of m takes 1 wide 1;size s cures 1;needs s 1 p;press r;mould u of s lives 1;");
+        askAll();
+        same("mix", 0, 9);
+        same("cut", 0, 0, 9);
+        askAll();
+        same("build", 0);
+        same("mount", 0, 0);
+        askAll();
+    }
+
+    private static String fullText() {
+        StringBuilder text = new StringBuilder();
+        for (int i = 0; i < 6; i++) {
+            text.append("mix ").append(name(14 + i)).append(" ripe 0 stale 999;");
+            text.append("size ").append(name(8 + i)).append(" cures ").append(1 + i).append(";");
+        }
+        for (int i = 0; i < 8; i++) {
+            text.append("part ").append(name(i)).append(" of ").append(name(14 + i % 6)).append(" takes 1 wide ").append(41 + i);
+            text.append(";mould a").append(name(i)).append(" of ").append(name(8 + i % 6)).append(" lives 99;");
+            text.append("order ").append(name(8 + i % 6)).append(" 9 by ").append(11 * i).append(";");
+            text.append(i == 7 ? "bad when at=2;" : "bad when at>8;").append(i < 4 ? "press " + name(20 + i) + ";" : "");
+        }
+        for (int n = 0; n < 30; n++) {
+            int from = n / 5;
+            text.append("change ").append(name(8 + from)).append(" ").append(name(8 + (from + 1 + n % 5) % 6)).append(" ");
+            text.append(n % 4).append(";");
+            if (n < 24) {
+                text.append("needs ").append(name(8 + n / 4)).append(" 1 ").append(name(n / 4 + n % 4 * 2 & 7)).append(";");
+            }
+        }
+        return text.toString();
     }
 
     private int near(int count) {
