@@ -136,7 +136,7 @@ public final class GoOnTest {
             x.mount(1, 0);
             y.mount(1, 0);
             int built = 0;
-            while (y.has(7) < n) {
+            for (int turn = 0; turn < n && y.has(7) < n; turn++) {
                 y.cure(0);
                 y.cure(1);
                 int size = fewer(y, 1, 5) ? 1 : fewer(y, 0, 4) ? 0 : NONE;
